@@ -586,6 +586,7 @@ public final class PromiseTest {
         refuse(x);
         due("length()", x.length(), 0);
 
+        x = new FlowInspector();
         for (int p = 0; p < 20; p++) put(x, p % 3 == 0 ? when(p % 6, 19 - p) : mul(p % 6, p % 2, p % 5));
         was = everything(x);
         due("emit of too many", put(x, set(0)), FULL);
