@@ -1,6 +1,7 @@
+import java.util.ArrayList;
 import java.util.Arrays;
+import java.util.List;
 import java.util.function.Consumer;
-import java.util.function.Supplier;
 
 /**
  * One test for each sentence of the document that names a boundary case; the sentence stands
@@ -141,6 +142,8 @@ public final class BoundaryTest {
         test(18, "a number is not as said there: emit", BoundaryTest::badEmitChangesNothing);
         test(18, "a number is not as said there: questions", BoundaryTest::badQuestionChangesNothing);
         test(18, "something is not there: questions", BoundaryTest::questionAboutNothingChangesNothing);
+        test(18, "something is not there: a way to it", BoundaryTest::questionAboutNotReachableChangesNothing);
+        test(18, "something is not there: a way to the end", BoundaryTest::questionWithoutWayChangesNothing);
         test(18, "something is not there: drop", BoundaryTest::badDropChangesNothing);
         test(18, "a limit is reached", BoundaryTest::fullChangesNothing);
         test(18, "frontier: also for q that is p there must be a reachable r", BoundaryTest::frontierOfItselfNeedsAWayBack);
@@ -179,11 +182,11 @@ public final class BoundaryTest {
     }
 
     /** Twenty steps of all kinds, with loops, branches and positions that no way comes to. */
-    private static FlowInspector fullCode() {
-        return code(set(0), add(1, 0, 2), when(1, 7), mul(2, 0, 1), copy(3, 2), when(3, 1), go(9),
-            add(3, 0, 2), use(3), mul(4, 0, 1), when(4, 18), add(0, 0, 2), go(2),
-            set(5), mul(5, 5, 5), go(1), use(5), go(16), mul(5, 0, 1), when(5, 9));
-    }
+    private static final int[][] FULL_CODE = {set(0), add(1, 0, 2), when(1, 7), mul(2, 0, 1), copy(3, 2), when(3, 1),
+        go(9), add(3, 0, 2), use(3), mul(4, 0, 1), when(4, 18), add(0, 0, 2), go(2),
+        set(5), mul(5, 5, 5), go(1), use(5), go(16), mul(5, 0, 1), when(5, 9)};
+
+    private static FlowInspector fullCode() { return code(FULL_CODE); }
 
     private static int bits(int... numbers) {
         int set = 0;
@@ -224,20 +227,24 @@ public final class BoundaryTest {
     private static void length(FlowInspector x, int want) { due("length()", x.length(), want); }
     private static void drop(FlowInspector x, int want) { due("drop()", x.drop(), want); }
 
-    /** All that can be asked; with twenty steps some 360 calls. */
+    /**
+     * All that can be asked and is not refused, with twenty steps some 360 calls; only where there
+     * may be no way to the end, after is refused, so it comes last.
+     */
     private static String everything(FlowInspector x) {
         StringBuilder s = new StringBuilder();
-        s.append(x.length()).append(' ').append(x.reachable()).append(' ').append(x.dead());
+        int reachable = x.reachable();
+        s.append(x.length()).append(' ').append(reachable).append(' ').append(x.dead());
         for (int v = 0; v < 6; v++) s.append(' ').append(x.joins(v));
         for (int p = 0; p < x.length(); p++) {
             s.append(" / ").append(p);
-            for (int e = 0; e < 3; e++) {
-                s.append(' ').append(x.reaching(e, p)).append(' ').append(x.live(e, p));
-                s.append(' ').append(x.available(e, p)).append(' ').append(x.busy(e, p));
-            }
-            s.append(' ').append(x.before(p)).append(' ').append(x.after(p)).append(' ').append(x.frontier(p));
+            for (int e = 0; e < 3; e++) s.append(' ').append(x.live(e, p)).append(' ').append(x.busy(e, p));
+            if ((reachable >> p & 1) == 0) continue;
+            for (int e = 0; e < 3; e++) s.append(' ').append(x.reaching(e, p)).append(' ').append(x.available(e, p));
+            s.append(' ').append(x.before(p)).append(' ').append(x.frontier(p));
             s.append(' ').append(x.loop(p)).append(' ').append(x.unset(p));
         }
+        for (int p = 0; p < x.length(); p++) s.append(' ').append(x.after(p));
         return s.toString();
     }
 
@@ -245,21 +252,55 @@ public final class BoundaryTest {
         due("all questions, compared with another object of the same steps,", everything(x).equals(everything(y)), true);
     }
 
-    /** Two objects of the same steps must stay the same when one of them is asked what is refused. */
-    private static void changesNothing(Supplier<FlowInspector> maker, Consumer<FlowInspector> refused) {
-        FlowInspector x = maker.get();
-        refused.accept(x);
-        sameAs(x, maker.get());
-        // What a refused call may have left behind shows only when the code changes.
-        x = maker.get();
-        FlowInspector y = maker.get();
-        refused.accept(x);
-        while (y.length() > 2) {
-            due("drop() behind a refused call", x.drop(), y.drop());
+    private static final int[][] KINDS = {set(1), copy(1, 2), add(1, 2, 3), mul(1, 2, 3), use(2), go(0), when(2, 0)};
+
+    /** The first steps of code of all kinds, with a step of each kind as the last one. */
+    private static List<int[][]> codesOf(int n) {
+        List<int[][]> codes = new ArrayList<>();
+        for (int[] kind : KINDS) {
+            int[][] steps = Arrays.copyOf(FULL_CODE, n);
+            steps[n - 1] = kind;
+            codes.add(steps);
         }
-        due("emit behind a refused call", put(x, add(3, 0, 1)), put(y, add(3, 0, 1)));
-        due("emit behind a refused call", put(x, when(3, 1)), put(y, when(3, 1)));
+        return codes;
+    }
+
+    private static List<int[][]> codesOfAllSizes() {
+        List<int[][]> codes = new ArrayList<>();
+        codes.add(new int[0][]);
+        codes.addAll(codesOf(1));
+        codes.addAll(codesOf(15));
+        codes.addAll(codesOf(20));
+        return codes;
+    }
+
+    /** Two objects of the same steps must stay the same when one of them is asked what is refused. */
+    private static void changeNothing(List<int[][]> codes, Consumer<FlowInspector> refused) {
+        for (int[][] steps : codes) {
+            FlowInspector x = code(steps);
+            refused.accept(x);
+            sameAs(x, code(steps));
+            // What a refused call has left behind may show only when the code changes.
+            int[] last = steps.length == 0 ? add(1, 2, 3) : steps[steps.length - 1];
+            changeBehind(refused, steps, y -> put(y, last));
+            changeBehind(refused, steps, FlowInspector::drop);
+            changeBehind(refused, steps, BoundaryTest::replaceMost);
+        }
+    }
+
+    private static void changeBehind(Consumer<FlowInspector> refused, int[][] steps, Consumer<FlowInspector> change) {
+        FlowInspector x = code(steps);
+        FlowInspector y = code(steps);
+        refused.accept(x);
+        change.accept(x);
+        change.accept(y);
         sameAs(x, y);
+    }
+
+    private static void replaceMost(FlowInspector x) {
+        while (x.length() > 2) x.drop();
+        put(x, add(3, 0, 1));
+        put(x, when(3, 1));
     }
 
     // ---- Terms
@@ -531,9 +572,8 @@ public final class BoundaryTest {
     }
 
     private static void nothingOfADroppedStepStays() {
-        int[][] kinds = {set(1), copy(1, 2), add(1, 2, 3), mul(1, 2, 3), use(2), go(0), when(2, 0)};
-        for (int[] old : kinds) {
-            for (int[] kind : kinds) {
+        for (int[] old : KINDS) {
+            for (int[] kind : KINDS) {
                 FlowInspector x = code(use(4), old);
                 drop(x, 1);
                 due("emit behind a drop", put(x, kind), 1);
@@ -1164,10 +1204,6 @@ public final class BoundaryTest {
 
     // ---- Promise 18
 
-    private static FlowInspector someCode() {
-        return code(add(2, 0, 1), when(2, 5), add(3, 0, 1), set(0), go(0), copy(1, 3), use(1), go(20), use(0));
-    }
-
     private static void badEmitChangesNothing() {
         int[][] bads = {
             {-1, 1, 1, 1}, {7, 1, 1, 1}, {LEAST, 1, 1, 1}, {MOST, 1, 1, 1},
@@ -1176,17 +1212,13 @@ public final class BoundaryTest {
             {2, 1, 1, 6}, {3, 1, 1, -1}, {5, 1, 1, 21}, {5, 1, 1, -1}, {6, 1, 1, 21}, {6, 1, 1, -1},
         };
         for (int[] bad : bads) {
-            Consumer<FlowInspector> refused = x -> due("emit" + Arrays.toString(bad), put(x, bad), BAD);
-            changesNothing(BoundaryTest::someCode, refused);
-            changesNothing(FlowInspector::new, refused);
-            changesNothing(BoundaryTest::fullCode, refused);
+            changeNothing(codesOfAllSizes(), x -> due("emit" + Arrays.toString(bad), put(x, bad), BAD));
         }
     }
 
     private static void badQuestionChangesNothing() {
-        Consumer<FlowInspector> refused = x -> {
+        changeNothing(codesOfAllSizes(), x -> {
             for (int odd : new int[] {-1, 32, LEAST, MOST}) {
-                reaching(x, odd, BAD);
                 due("reaching", x.reaching(odd, 0), BAD);
                 due("live", x.live(odd, 0), BAD);
                 due("available", x.available(odd, 0), BAD);
@@ -1195,43 +1227,51 @@ public final class BoundaryTest {
                 due("agree", x.agree(0, odd), false);
                 joins(x, odd, BAD);
             }
-        };
-        changesNothing(BoundaryTest::someCode, refused);
-        changesNothing(FlowInspector::new, refused);
-        changesNothing(BoundaryTest::fullCode, refused);
-    }
-
-    private static void questionAboutNothingChangesNothing() {
-        Consumer<FlowInspector> refused = x -> {
-            for (int p : new int[] {x.length(), 20, -1}) {
-                due("reaching", x.reaching(0, p), BAD);
-                due("live", x.live(1, p), BAD);
-                due("available", x.available(2, p), BAD);
-                due("busy", x.busy(0, p), BAD);
-                before(x, p, BAD);
-                after(x, p, BAD);
-                frontier(x, p, BAD);
-                loop(x, p, BAD);
-                unset(x, p, BAD);
-            }
-        };
-        changesNothing(BoundaryTest::someCode, refused);
-        changesNothing(FlowInspector::new, refused);
-        changesNothing(BoundaryTest::fullCode, refused);
-        // The last step of this code is there, but no way comes to it.
-        changesNothing(BoundaryTest::someCode, x -> {
-            reaching(x, 8, BAD);
-            available(x, 8, BAD);
-            before(x, 8, BAD);
-            frontier(x, 8, BAD);
-            loop(x, 8, BAD);
-            unset(x, 8, BAD);
         });
     }
 
+    private static void questionAboutNothingChangesNothing() {
+        changeNothing(codesOfAllSizes(), x -> {
+            for (int p : new int[] {x.length(), 20, -1}) {
+                due("live", x.live(1, p), BAD);
+                due("busy", x.busy(0, p), BAD);
+                after(x, p, BAD);
+                refuseNotReachable(x, p);
+            }
+        });
+    }
+
+    private static void refuseNotReachable(FlowInspector x, int p) {
+        due("reaching", x.reaching(0, p), BAD);
+        due("available", x.available(2, p), BAD);
+        before(x, p, BAD);
+        frontier(x, p, BAD);
+        loop(x, p, BAD);
+        unset(x, p, BAD);
+    }
+
+    private static void questionAboutNotReachableChangesNothing() {
+        List<int[][]> codes = codesOf(15);
+        codes.addAll(codesOf(20));
+        changeNothing(codes, x -> {
+            refuseNotReachable(x, 13);
+            refuseNotReachable(x, 14);
+        });
+    }
+
+    private static void questionWithoutWayChangesNothing() {
+        List<int[][]> codes = new ArrayList<>();
+        codes.add(new int[][] {go(0)});
+        codes.add(new int[][] {go(0), add(2, 0, 1), set(0)});
+        codes.add(new int[][] {go(2), add(2, 0, 1), go(0), set(0)});
+        changeNothing(codes, x -> after(x, 0, BAD));
+    }
+
     private static void badDropChangesNothing() {
-        changesNothing(FlowInspector::new, x -> drop(x, BAD));
-        changesNothing(FlowInspector::new, x -> {
+        List<int[][]> codes = new ArrayList<>();
+        codes.add(new int[0][]);
+        changeNothing(codes, x -> drop(x, BAD));
+        changeNothing(codes, x -> {
             for (int i = 0; i < 25; i++) drop(x, BAD);
         });
         FlowInspector x = new FlowInspector();
@@ -1241,9 +1281,8 @@ public final class BoundaryTest {
     }
 
     private static void fullChangesNothing() {
-        int[][] kinds = {set(1), copy(1, 2), add(1, 2, 3), mul(1, 2, 3), use(2), go(0), when(2, 0)};
-        for (int[] kind : kinds) {
-            changesNothing(BoundaryTest::fullCode, x -> due("the 21st", put(x, kind), FULL));
+        for (int[] kind : KINDS) {
+            changeNothing(codesOf(20), x -> due("the 21st", put(x, kind), FULL));
         }
         FlowInspector x = many(20, use(0));
         for (int i = 0; i < 25; i++) due("the 21st", put(x, set(0)), FULL);
